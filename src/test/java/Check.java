@@ -1,0 +1,98 @@
+/** What the tests share: it counts wrong answers, and speaks of texts and papers as Strings. */
+final class Check {
+    private static int wrong = 0;
+
+    private Check() {}
+
+    static void due(String call, long got, long want) {
+        if (got != want) {
+            wrong++;
+            System.out.println(call + " answered " + got + ", due is " + want);
+        }
+    }
+
+    static void due(String call, String got, String want) {
+        if (!got.equals(want)) {
+            wrong++;
+            System.out.println(call + " answered " + shown(got) + ", due is " + shown(want));
+        }
+    }
+
+    static boolean allRight() {
+        return wrong == 0;
+    }
+
+    static void end() {
+        if (wrong != 0) {
+            System.out.println(wrong + " answers are not as due");
+            System.exit(1);
+        }
+    }
+
+    static LinePatcher withTexts(String... texts) {
+        LinePatcher patcher = new LinePatcher();
+        for (int text = 0; text < texts.length; text++) {
+            addLines(patcher, text, texts[text]);
+        }
+        return patcher;
+    }
+
+    static void setText(LinePatcher patcher, int text, String lines) {
+        patcher.clear(text);
+        addLines(patcher, text, lines);
+    }
+
+    static void addLines(LinePatcher patcher, int text, String lines) {
+        for (int i = 0; i < lines.length(); i += 8) {
+            String some = lines.substring(i, Math.min(i + 8, lines.length()));
+            due("add of " + some, patcher.add(text, packed(some), some.length()), i + some.length());
+        }
+    }
+
+    static void setPaper(LinePatcher patcher, String characters) {
+        patcher.wipe();
+        for (int i = 0; i < characters.length(); i += 8) {
+            String some = characters.substring(i, Math.min(i + 8, characters.length()));
+            due("type", patcher.type(packed(some), some.length()), i + some.length());
+        }
+    }
+
+    static long packed(String bytes) {
+        long all = 0;
+        for (int i = 0; i < bytes.length(); i++) {
+            all = all << 8 | bytes.charAt(i);
+        }
+        return all;
+    }
+
+    static String textOf(LinePatcher patcher, int text) {
+        StringBuilder lines = new StringBuilder();
+        for (int i = 0; i < patcher.size(text); i++) {
+            lines.append((char) patcher.line(text, i));
+        }
+        due("line behind the last", patcher.line(text, patcher.size(text)), LinePatcher.NONE);
+        return lines.toString();
+    }
+
+    static String paperOf(LinePatcher patcher) {
+        StringBuilder characters = new StringBuilder();
+        for (int i = 0; i < 900 && patcher.character(i) != LinePatcher.NONE; i++) {
+            characters.append((char) patcher.character(i));
+        }
+        return characters.toString();
+    }
+
+    /** The answers of match for lines 0 .. count - 1: '.' for NONE. */
+    static String matchesOf(LinePatcher patcher, int count) {
+        StringBuilder matches = new StringBuilder();
+        for (int i = 0; i < count; i++) {
+            int j = patcher.match(i);
+            matches.append(i == 0 ? "" : " ").append(j == LinePatcher.NONE ? "." : Integer.toString(j));
+        }
+        return matches.toString();
+    }
+
+    static String shown(String text) {
+        return "'" + text.replace("\n", "\\n") + "'";
+    }
+}
