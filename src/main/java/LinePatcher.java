@@ -209,7 +209,7 @@ public final class LinePatcher {
             return true;
         }
 
-        /** The one place of a line in a range, or NONE if it stands there never or more than once. */
+        /** The place of a line in a range, or NONE if it stands there never or more than once. */
         int onlyPlace(int line, int from, int to) {
             int place = NONE;
             for (int i = from; i < to; i++) {
@@ -628,13 +628,17 @@ public final class LinePatcher {
         private boolean takeLines() {
             oldCount = 0;
             newCount = 0;
-            int mostLines = oldDue + newDue;
-            for (int taken = 0; taken < mostLines && (oldCount < oldDue || newCount < newDue); taken++) {
+            // Lines that are old and new at once make fewer of them than the two counts together.
+            for (int most = oldDue + newDue; most > 0 && hasLinesDue(); most--) {
                 if (!takeLine()) {
                     return false;
                 }
             }
             return true;
+        }
+
+        private boolean hasLinesDue() {
+            return oldCount < oldDue || newCount < newDue;
         }
 
         private boolean takeLine() {
@@ -734,7 +738,8 @@ public final class LinePatcher {
         private int nearestPlace(Text text, int from) {
             int nearest = NONE;
             for (int place = from; place <= text.count - reader.oldCount; place++) {
-                if (fitsAt(text, place) && (nearest == NONE || distance(place) < distance(nearest))) {
+                boolean isNearer = nearest == NONE || distance(place) < distance(nearest);
+                if (isNearer && fitsAt(text, place)) {
                     nearest = place;
                 }
             }

@@ -45,7 +45,8 @@ final class Check {
     static void addLines(LinePatcher patcher, int text, String lines) {
         for (int i = 0; i < lines.length(); i += 8) {
             String some = lines.substring(i, Math.min(i + 8, lines.length()));
-            due("add of " + some, patcher.add(text, packed(some), some.length()), i + some.length());
+            int n = some.length();
+            due("add of " + some, patcher.add(text, packed(some), n), i + n);
         }
     }
 
@@ -53,7 +54,8 @@ final class Check {
         patcher.wipe();
         for (int i = 0; i < characters.length(); i += 8) {
             String some = characters.substring(i, Math.min(i + 8, characters.length()));
-            due("type", patcher.type(packed(some), some.length()), i + some.length());
+            int n = some.length();
+            due("type of " + shown(some), patcher.type(packed(some), n), i + n);
         }
     }
 
@@ -87,7 +89,8 @@ final class Check {
         StringBuilder matches = new StringBuilder();
         for (int i = 0; i < count; i++) {
             int j = patcher.match(i);
-            matches.append(i == 0 ? "" : " ").append(j == LinePatcher.NONE ? "." : Integer.toString(j));
+            matches.append(i == 0 ? "" : " ");
+            matches.append(j == LinePatcher.NONE ? "." : Integer.toString(j));
         }
         return matches.toString();
     }

@@ -16,7 +16,8 @@ public final class FaceTest {
         Check.due("BAD", LinePatcher.BAD, -1);
         Check.due("FULL", LinePatcher.FULL, -2);
         Check.due("NONE", LinePatcher.NONE, -3);
-        Check.due("public final", LinePatcher.class.getModifiers(), Modifier.PUBLIC | Modifier.FINAL);
+        int modifiers = LinePatcher.class.getModifiers();
+        Check.due("public final", modifiers, Modifier.PUBLIC | Modifier.FINAL);
         Check.due("the methods", visibleMethods().toString(), new TreeSet<>(METHODS).toString());
         Check.due("the constants", visibleFields().toString(), "[BAD, FULL, NONE]");
         Constructor<?>[] constructors = LinePatcher.class.getDeclaredConstructors();

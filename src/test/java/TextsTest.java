@@ -66,7 +66,8 @@ public final class TextsTest {
         int[] noLetters = {0, 10, 32, 60, 61, 62, 65, 90, 96, 123, 128, 225, 255};
         for (int noLetter : noLetters) {
             for (int at = 0; at < 8; at++) {
-                long lines = Check.packed("bcdefghi") & ~(255L << 8 * at) | (long) noLetter << 8 * at;
+                long others = Check.packed("bcdefghi") & ~(255L << 8 * at);
+                long lines = others | (long) noLetter << 8 * at;
                 Check.due("add " + noLetter, patcher.add(0, lines, 8), LinePatcher.BAD);
             }
         }
