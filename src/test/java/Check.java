@@ -1,5 +1,10 @@
 /** What the tests share: it counts wrong answers, and speaks of texts and papers as Strings. */
 final class Check {
+    static final String FULL_TEXT = "abcdefghijklmnopqrstuvwx";
+    static final int[] NO_TEXTS = {-1, 4, 5, -4, Integer.MIN_VALUE, Integer.MAX_VALUE};
+    /** What no call takes as a number of bytes. */
+    static final int[] NO_COUNTS = {0, 9, -1, 10, Integer.MIN_VALUE, Integer.MAX_VALUE};
+
     private static int wrong = 0;
 
     private Check() {}
@@ -35,6 +40,36 @@ final class Check {
             addLines(patcher, text, texts[text]);
         }
         return patcher;
+    }
+
+    /** A new object, and one that did other work before and was emptied then. */
+    static LinePatcher[] newAndUsed() {
+        LinePatcher used = withTexts("cxaxbxcxdxexfxgxhxixjxkx", "dyaybycydyeyfygyhyiyjyky");
+        used.compare(0, 1, 1);
+        used.write(0);
+        used.apply(0);
+        used.apply(0);
+        used.type('@', 1);
+        used.read();
+        setText(used, 0, FULL_TEXT);
+        used.compare(0, 0, 0);
+        setText(used, 2, "zabcdefghijklmnopqrstuvw");
+        used.merge();
+        clearAll(used);
+        return new LinePatcher[] {new LinePatcher(), used};
+    }
+
+    private static void clearAll(LinePatcher patcher) {
+        for (int text = 0; text < 4; text++) {
+            patcher.clear(text);
+        }
+        patcher.wipe();
+    }
+
+    static void setTexts(LinePatcher patcher, String... texts) {
+        for (int text = 0; text < texts.length; text++) {
+            setText(patcher, text, texts[text]);
+        }
     }
 
     static void setText(LinePatcher patcher, int text, String lines) {
@@ -78,10 +113,23 @@ final class Check {
 
     static String paperOf(LinePatcher patcher) {
         StringBuilder characters = new StringBuilder();
-        for (int i = 0; i < 900 && patcher.character(i) != LinePatcher.NONE; i++) {
-            characters.append((char) patcher.character(i));
+        int next = patcher.character(0);
+        while (next != LinePatcher.NONE && characters.length() < 900) {
+            characters.append((char) next);
+            next = patcher.character(characters.length());
         }
         return characters.toString();
+    }
+
+    /** Compares text 0 with text 1, and looks at all matches. */
+    static void compared(String x, String y, int way, int changed, String matches) {
+        for (LinePatcher patcher : newAndUsed()) {
+            setTexts(patcher, x, y);
+            String call = "compare of " + x + " with " + y + " by way " + way;
+            due(call, patcher.compare(0, 1, way), changed);
+            due(call + ": match", matchesOf(patcher, x.length()), matches);
+            due(call + ": match behind", patcher.match(x.length()), LinePatcher.NONE);
+        }
     }
 
     /** The answers of match for lines 0 .. count - 1: '.' for NONE. */
