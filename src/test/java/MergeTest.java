@@ -127,7 +127,8 @@ public final class MergeTest {
         merged("aaaa", "aaaa", "aaaab", 0, "aaaab");
     }
 
-    // "the only lines that are no letters, and merge() alone puts them into text 3"
+    // "the only lines that are no letters, and merge() alone puts them into text 3": so merge()'s
+    // "NONE: one of 0, 1, 2 has a line that is no letter" cannot come about.
     private static void noOtherCallPutsInLinesThatAreNoLetters() {
         LinePatcher patcher = new LinePatcher();
         for (int sign = 60; sign <= 62; sign++) {

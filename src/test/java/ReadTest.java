@@ -205,6 +205,7 @@ public final class ReadTest {
         reads("@0,1 0,1\n a\n@0,0 0,0\n", 20);
     }
 
+    // "at least one line": one count may be 0, and then a line of the other kind must follow.
     private static void oneCountOfZero() {
         reads("@0,0 0,1\n+z\n", -1);
         reads("@0,1 0,0\n-z\n", -1);
